@@ -612,10 +612,10 @@ public final class DocumentPaths {
         int base = entry * MOST_NODES;
         switch (kind) {
             case TAG:
-                members[entry] = nodesWithTag(a);
+                members[entry] = nodesFromTo(tags, a, a);
                 break;
             case LEAST:
-                members[entry] = nodesWithLeast(a);
+                members[entry] = nodesFromTo(values, a, MOST_VALUE);
                 break;
             case HAS:
                 members[entry] = nodesWithMany(a, base);
@@ -743,20 +743,11 @@ public final class DocumentPaths {
         }
     }
 
-    private int nodesWithTag(int tag) {
+    private int nodesFromTo(int[] numbersOfNodes, int least, int most) {
         int set = 0;
         for (int r = 0; r < size; r++) {
-            if (tags[order[r]] == tag) {
-                set |= 1 << order[r];
-            }
-        }
-        return set;
-    }
-
-    private int nodesWithLeast(int value) {
-        int set = 0;
-        for (int r = 0; r < size; r++) {
-            if (values[order[r]] >= value) {
+            int number = numbersOfNodes[order[r]];
+            if (number >= least && number <= most) {
                 set |= 1 << order[r];
             }
         }
@@ -777,22 +768,12 @@ public final class DocumentPaths {
         int set = 0;
         for (int r = 0; r < size; r++) {
             int y = order[r];
-            int alike = nodesWithValue(values[y]);
+            int alike = nodesFromTo(values, values[y], values[y]);
             for (int x = 0; x < MOST_NODES; x++) {
                 boolean meets = (rows[base + MOST_NODES + x] & alike) != 0;
                 if (meets && (rows[base + x] >>> y & 1) == 1) {
                     set |= 1 << x;
                 }
-            }
-        }
-        return set;
-    }
-
-    private int nodesWithValue(int value) {
-        int set = 0;
-        for (int r = 0; r < size; r++) {
-            if (values[order[r]] == value) {
-                set |= 1 << order[r];
             }
         }
         return set;

@@ -134,6 +134,7 @@ public final class AnswersTest {
     check.due("node 3 still has 7", d.related(0, 7), 1);
     d.remove(7);
     check.due("now the same", d.same(), 1);
+    check.due("all the same but node 0", with(0, 0, 0, 0, 9, 0, 12, 0, DocumentPaths.WHERE, 0).same(), 0);
     DocumentPaths wide = Trees.wide();
     wide.label(31, 1);
     Trees.put(wide, 0, 0, 0, 0, 9, 0, DocumentPaths.WHERE, 0);

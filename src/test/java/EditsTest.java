@@ -146,6 +146,9 @@ public final class EditsTest {
         "the tree",
         Trees.picture(d),
         "8 0:0/0(3) 3:1/10(7 1) 7:3/-5() 1:1/10(4) 4:3/-5(2) 2:2/20(5) 5:2/0(6) 6:1/20()");
+    DocumentPaths beside = Trees.small();
+    check.due("under the node behind all below it", beside.move(1, 2, 0), 1);
+    check.due("childAt(2, 0)", beside.childAt(2, 0), 1);
     DocumentPaths full = Trees.wide();
     check.due("move in a full tree", full.move(31, 0, 0), 31);
     check.due("childAt(0, 0)", full.childAt(0, 0), 31);

@@ -17,6 +17,7 @@ public final class EntriesTest {
     followTheTree();
     numbersAtTheEnd();
     deepQuery();
+    eighthEntry();
     check.end();
   }
 
@@ -264,5 +265,53 @@ public final class EntriesTest {
     }
     // Of 64 pairs 16 are earlier ones; 4 of these stand in one row and come in by axis 6.
     check.due("pairs()", d.pairs(), 64 - 16 + 4);
+  }
+
+  /** Each kind makes the eighth entry of a tree of 32 nodes, where no room is left beyond it. */
+  private static void eighthEntry() {
+    check.about("the eighth entry, of 32 nodes");
+    eighthPath(31, 0, 1);
+    eighthPath(31, 0, 1, DocumentPaths.TURN, 0);
+    eighthPath(63, 0, 1, DocumentPaths.REPEAT, 0);
+    eighthPath(1, 0, 1, DocumentPaths.NTH, -1);
+    eighthCondition(32, DocumentPaths.TAG, 0);
+    eighthCondition(32, DocumentPaths.LEAST, 0);
+    eighthCondition(1, 0, 1, DocumentPaths.HAS, 9);
+    eighthCondition(0, DocumentPaths.TAG, 0, DocumentPaths.NOT, 0);
+    check.about("the seventh entry, made of the eighth, of 32 nodes");
+    seventhPath(31 * 31, 0, 2, 0, 1, DocumentPaths.JOIN, 0);
+    seventhPath(62, 0, 1, 0, 2, DocumentPaths.EITHER, 0);
+    seventhPath(31, 0, 1, 0, 3, DocumentPaths.BOTH, 0);
+    seventhPath(0, 0, 1, 0, 3, DocumentPaths.WITHOUT, 0);
+    seventhPath(31, 0, 1, DocumentPaths.TAG, 0, DocumentPaths.WHERE, 0);
+    DocumentPaths d = full(6);
+    check.due("MATCH", Trees.put(d, 0, 0, 0, 1, DocumentPaths.MATCH, 0), 7);
+    check.due("holders()", d.holders(), 1);
+  }
+
+  private static DocumentPaths full(int entries) {
+    DocumentPaths d = Trees.wide();
+    for (int i = 0; i < entries; i++) {
+      d.token(DocumentPaths.AXIS, 0);
+    }
+    return d;
+  }
+
+  private static void eighthPath(int pairs, int... tokens) {
+    DocumentPaths d = full(7);
+    check.due("the entries", Trees.put(d, tokens), 8);
+    check.due("pairs()", d.pairs(), pairs);
+  }
+
+  private static void seventhPath(int pairs, int... tokens) {
+    DocumentPaths d = full(6);
+    check.due("the entries", Trees.put(d, tokens), 7);
+    check.due("pairs()", d.pairs(), pairs);
+  }
+
+  private static void eighthCondition(int nodes, int... tokens) {
+    DocumentPaths d = full(7);
+    check.due("the entries", Trees.put(d, tokens), 8);
+    check.due("holders()", d.holders(), nodes);
   }
 }

@@ -242,20 +242,22 @@ public final class WatchTest {
 
   private static void nodeTakenOutAndNumberGivenAgain() {
     check.about("a watch whose node's number is given again");
-    DocumentPaths d = Trees.small();
-    d.token(0, 4);
-    d.watch(2, 5);
-    d.remove(5);
-    check.due("add", d.add(3, 0, 0), 5);
-    check.due("watched(2, 0)", d.watched(2, 0), -2);
-    gainedLost(d, 2, 0, 0);
-    check.due("copy", d.copy(5, 2, 0), 6);
-    gainedLost(d, 2, 0, 0);
-    check.due("set anew", d.watch(2, 5), 2);
-    check.alike("its nodes", Trees.watchedBy(d, 2), "0 3");
-    d.remove(3);
-    gainedLost(d, 2, 0, 2);
-    check.due("watched(2, 0)", d.watched(2, 0), -2);
+    for (int slot = 0; slot < 3; slot++) {
+      DocumentPaths d = Trees.small();
+      d.token(0, 4);
+      d.watch(slot, 5);
+      d.remove(5);
+      check.due("add", d.add(3, 0, 0), 5);
+      check.due("watched", d.watched(slot, 0), -2);
+      gainedLost(d, slot, 0, 0);
+      check.due("copy", d.copy(5, 2, 0), 6);
+      gainedLost(d, slot, 0, 0);
+      check.due("set anew", d.watch(slot, 5), 2);
+      check.alike("its nodes", Trees.watchedBy(d, slot), "0 3");
+      d.remove(3);
+      gainedLost(d, slot, 0, 2);
+      check.due("watched", d.watched(slot, 0), -2);
+    }
   }
 
   private static void numbersTellNodesApart() {
