@@ -29,6 +29,10 @@ final class Check {
     }
   }
 
+  int checks() {
+    return checks;
+  }
+
   int wrong() {
     return wrong;
   }

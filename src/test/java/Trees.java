@@ -50,11 +50,17 @@ final class Trees {
     text.append(d.nodes());
     for (int r = 0; r < d.nodes(); r++) {
       int node = d.nodeAt(r);
-      text.append(' ').append(node).append(':').append(d.tagOf(node)).append('/').append(d.valueOf(node)).append('(');
-      for (int place = 0; d.childAt(node, place) != -1 && place < 40; place++) {
-        text.append(place == 0 ? "" : " ").append(d.childAt(node, place));
-      }
-      text.append(')');
+      text.append(' ').append(node).append(':').append(d.tagOf(node)).append('/').append(d.valueOf(node));
+      text.append('(').append(children(d, node)).append(')');
+    }
+    return text.toString();
+  }
+
+  /** The children of a node in the order of their places. */
+  static String children(DocumentPaths d, int node) {
+    StringBuilder text = new StringBuilder();
+    for (int place = 0; d.childAt(node, place) != -1 && place < 40; place++) {
+      text.append(place == 0 ? "" : " ").append(d.childAt(node, place));
     }
     return text.toString();
   }
