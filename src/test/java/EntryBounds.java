@@ -128,7 +128,8 @@ final class EntryBounds {
     bounds.due("no pair in Q", small("AXIS 1, " + NONE + ", JOIN").pairs(), 0);
     alikeOnSmall("AXIS 0, AXIS 7, JOIN", "AXIS 7");
     alikeOnSmall("AXIS 7, AXIS 0, JOIN", "AXIS 7");
-    bounds.due("by way of 31", wide("AXIS 6, AXIS 5, JOIN").related(30, 31), 1);
+    bounds.due("by way of 31", wide("AXIS 5, AXIS 6, JOIN").related(29, 30), 1);
+    bounds.due("by way of itself alone", wide("AXIS 0, AXIS 1, JOIN, AXIS 1").same(), 1);
   }
 
   private void either() {

@@ -8,6 +8,7 @@ import java.util.List;
 public final class ModelTest {
   private static final int RUNS = 400;
   private static final int CALLS = 512;
+  private static final int LATER_CALLS = 200;
   private static final int SHOWN = 12;
 
   private long state;
@@ -44,6 +45,10 @@ public final class ModelTest {
         made.subList(Math.max(0, made.size() - SHOWN), made.size()).forEach(System.out::println);
         return;
       }
+    }
+    // What later calls answer is free, but none of them may throw.
+    for (int i = 0; i < LATER_CALLS; i++) {
+      makeCall();
     }
   }
 

@@ -108,6 +108,15 @@ final class Scenes {
     return d;
   }
 
+  /** The small tree with one entry, made by 24 tokens. */
+  static DocumentPaths twentyFourTokensOfOne() {
+    DocumentPaths d = with(noQuery(), "AXIS 3");
+    for (int i = 1; i < 24; i++) {
+      d.token(DocumentPaths.TURN, 0);
+    }
+    return d;
+  }
+
   /** The small tree with watch 2 set to node 5 (and what is above it), which is then taken out. */
   static DocumentPaths endedWatch() {
     DocumentPaths d = with(noQuery(), "AXIS 4");

@@ -7,6 +7,14 @@ import java.util.function.Supplier;
 final class TermBounds {
   private static final String TERMS = "Terms";
   private static final int[] AXES_THAT_PART_ALL_PAIRS = {0, 3, 4, 7, 8};
+  private static final List<String> ONE_OF_EACH_PATH =
+      List.of(
+          "AXIS 1", "AXIS 2, AXIS 1, JOIN", "AXIS 1, AXIS 2, EITHER", "AXIS 1, AXIS 3, BOTH",
+          "AXIS 3, AXIS 0, WITHOUT", "AXIS 1, TURN", "AXIS 2, REPEAT", "AXIS 1, NTH 1", "AXIS 1, TAG 0, WHERE");
+  private static final List<String> ONE_OF_EACH_CONDITION =
+      List.of(
+          "TAG 0", "LEAST 0", "AXIS 1, HAS 1", "TAG 1, NOT", "TAG 0, TAG 0, AND", "TAG 0, TAG 1, OR",
+          "AXIS 1, AXIS 1, MATCH");
 
   private final Bounds bounds;
 
@@ -269,22 +277,26 @@ final class TermBounds {
     bounds.due("TAG 0, a ninth", Scenes.put(d, "TAG 0"), -4);
     bounds.due("LEAST 0, a ninth", Scenes.put(d, "LEAST 0"), -4);
     bounds.due("clearQuery()", d.clearQuery(), 8);
+    for (String path : ONE_OF_EACH_PATH) {
+      bounds.due(path + " in the last room", wide(fillingFor(path) + path).pairs(), wide(path).pairs());
+    }
+    for (String condition : ONE_OF_EACH_CONDITION) {
+      String tokens = fillingFor(condition) + condition;
+      bounds.due(condition + " in the last room", wide(tokens).holders(), wide(condition).holders());
+    }
+  }
+
+  /** Entries that leave room, of the 8, just for those that the tokens put ahead of their last one. */
+  private static String fillingFor(String tokens) {
+    return "AXIS 3, ".repeat(tokens.split(", ").length == 3 ? 6 : 7);
   }
 
   private void pathOrCondition() {
     bounds.sentence(TERMS, "An entry is a PATH or a CONDITION");
-    List<String> paths =
-        List.of(
-            "AXIS 1", "AXIS 1, AXIS 1, JOIN", "AXIS 1, AXIS 2, EITHER", "AXIS 1, AXIS 3, BOTH",
-            "AXIS 3, AXIS 1, WITHOUT", "AXIS 1, TURN", "AXIS 1, REPEAT", "AXIS 1, NTH 1", "AXIS 1, TAG 1, WHERE");
-    for (String path : paths) {
+    for (String path : ONE_OF_EACH_PATH) {
       bounds.isTrue(path + " is a path", small(path).pairs() >= 0 && small(path).holders() == -1);
     }
-    List<String> conditions =
-        List.of(
-            "TAG 1", "LEAST 1", "AXIS 1, HAS 1", "TAG 1, NOT", "TAG 1, TAG 2, AND", "TAG 1, TAG 2, OR",
-            "AXIS 1, AXIS 1, MATCH");
-    for (String condition : conditions) {
+    for (String condition : ONE_OF_EACH_CONDITION) {
       bounds.isTrue(condition + " is a condition", small(condition).holders() >= 0 && small(condition).pairs() == -1);
     }
   }
@@ -526,18 +538,27 @@ final class TermBounds {
     bounds.unchanged("childAt", Scenes::wide, d -> d.childAt(0, 31), -1);
     bounds.unchanged("tagOf", Scenes::wide, d -> d.tagOf(32), -1);
     bounds.unchanged("valueOf", Scenes::wide, d -> d.valueOf(32), 100);
-    bounds.unchanged("token", Scenes::twentyFourTokens, d -> d.token(DocumentPaths.JOIN, 0), -2);
-    bounds.unchanged("select", Scenes::small, d -> d.select(2, 0), -2);
-    bounds.unchanged("selected", Scenes::small, d -> d.selected(8), -1);
-    bounds.unchanged("related", Scenes::small, d -> d.related(0, 8), -1);
-    bounds.unchanged("pairs", Scenes::conditionOnTop, DocumentPaths::pairs, -1);
-    bounds.unchanged("holds", Scenes::small, d -> d.holds(0), -1);
-    bounds.unchanged("holders", Scenes::small, DocumentPaths::holders, -1);
-    bounds.unchanged("same", Scenes::pathOnTop, DocumentPaths::same, -1);
-    bounds.unchanged("watch", Scenes::conditionOnTop, d -> d.watch(0, 0), -2);
-    bounds.unchanged("watched", Scenes::small, d -> d.watched(2, 0), -1);
-    bounds.unchanged("gained", Scenes::small, d -> d.gained(3), 0);
-    bounds.unchanged("lost", Scenes::small, d -> d.lost(3), 0);
+    bounds.unchanged("token, no kind", Scenes::wide, d -> d.token(16, 0), -1);
+    bounds.unchanged("token, 24 put", () -> wideWithMore("TURN, ".repeat(21)), d -> d.token(5, 0), -2);
+    bounds.unchanged("token, no condition", Scenes::wide, d -> d.token(12, 0), -3);
+    bounds.unchanged("token, 8 entries", () -> wideWithMore("AXIS 1, ".repeat(5)), d -> d.token(0, 0), -4);
+    bounds.unchanged("select", Scenes::wide, d -> d.select(31, 0), -2);
+    bounds.unchanged("selected", Scenes::wide, d -> d.selected(32), -1);
+    bounds.unchanged("related", Scenes::wide, d -> d.related(0, 32), -1);
+    bounds.unchanged("pairs", () -> wideWithMore("TAG 1"), DocumentPaths::pairs, -1);
+    bounds.unchanged("holds", Scenes::wide, d -> d.holds(0), -1);
+    bounds.unchanged("holders", Scenes::wide, DocumentPaths::holders, -1);
+    bounds.unchanged("same", () -> wideWithMore("TAG 1"), DocumentPaths::same, -1);
+    bounds.unchanged("watch, no slot", Scenes::wide, d -> d.watch(3, 0), -1);
+    bounds.unchanged("watch, no path", () -> wideWithMore("TAG 1"), d -> d.watch(0, 0), -2);
+    bounds.unchanged("watched, no slot", Scenes::wide, d -> d.watched(3, 0), -1);
+    bounds.unchanged("watched, never set", Scenes::wide, d -> d.watched(2, 0), -1);
+    bounds.unchanged("gained", Scenes::wide, d -> d.gained(3), 0);
+    bounds.unchanged("lost", Scenes::wide, d -> d.lost(3), 0);
+  }
+
+  private static DocumentPaths wideWithMore(String tokens) {
+    return Scenes.with(Scenes.wide(), tokens);
   }
 
   private void orderOfTests() {

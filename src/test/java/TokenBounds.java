@@ -135,6 +135,7 @@ final class TokenBounds {
     bounds.due("token 25, after an edit and watch", Scenes.put(d, "TURN"), -2);
     for (String token : TAKING_P) {
       refused(token, Scenes::twentyFourTokens, -2);
+      refused(token, Scenes::twentyFourTokensOfOne, -2);
     }
     for (String token : TAKING_PQ) {
       refused(token, Scenes::twentyFourTokens, -2);

@@ -6,6 +6,7 @@ import java.util.function.Function;
  */
 enum View {
   TREE(Trees::picture),
+  NUMBERS(View::numbers),
   FREE_NUMBERS(View::freeNumbers),
   TOP(View::top),
   STACK(View::stack),
@@ -24,6 +25,15 @@ enum View {
 
   String of(DocumentPaths d) {
     return look.apply(d);
+  }
+
+  private static String numbers(DocumentPaths d) {
+    StringBuilder text = new StringBuilder();
+    for (int node = 0; node < MOST_NODES; node++) {
+      text.append(d.tagOf(node)).append('/').append(d.valueOf(node)).append('/');
+      text.append(d.childAt(node, 0)).append(' ');
+    }
+    return text.toString();
   }
 
   private static String freeNumbers(DocumentPaths d) {
