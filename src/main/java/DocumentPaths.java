@@ -651,6 +651,7 @@ public final class DocumentPaths {
         }
     }
 
+    // Calls nothing, not even isBelow: from an edit on, calls are as deep here as they may go.
     private boolean isOnAxis(int axis, int x, int y) {
         switch (axis) {
             case 0:

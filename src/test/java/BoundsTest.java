@@ -21,7 +21,7 @@ public final class BoundsTest {
     TokenBounds.look(bounds);
     AnswerBounds.look(bounds);
     WatchBounds.look(bounds);
-    String document = Files.readString(Path.of(System.getProperty("documentpaths.document")));
+    String document = Files.readString(Path.of("../shared/DOC.md"));
     bounds.hasTestsFor("Terms", clauses(document, "## Terms\n"));
     for (int promise = 1; promise <= PROMISES; promise++) {
       bounds.hasTestsFor("Promise " + promise, clauses(document, "## Promise " + promise + ": "));

@@ -1,30 +1,28 @@
+import java.io.IOException;
 import java.lang.reflect.Constructor;
 import java.lang.reflect.Field;
 import java.lang.reflect.Method;
 import java.lang.reflect.Modifier;
+import java.nio.file.Files;
+import java.nio.file.Path;
+import java.util.Arrays;
 import java.util.Set;
 import java.util.TreeSet;
+import java.util.stream.Collectors;
 
-/** The public face of the document, and what rules 1, 2, 5 and 10 say of members. */
+/** The public face, as the document writes it down, and what rules 1, 2, 5 and 10 say of members. */
 public final class FaceTest {
-  private static final String[] CONSTANTS = {
-    "AXIS", "JOIN", "EITHER", "BOTH", "WITHOUT", "TURN", "REPEAT", "NTH", "WHERE", "TAG", "LEAST", "HAS", "NOT", "AND",
-    "OR", "MATCH"
-  };
-  private static final String[] METHODS = {
-    "add/3", "remove/1", "move/3", "copy/3", "label/2", "mark/2", "nodes/0", "nodeAt/1", "childAt/2", "tagOf/1",
-    "valueOf/1", "token/2", "clearQuery/0", "select/2", "selected/1", "related/2", "pairs/0", "holds/1", "holders/0",
-    "same/0", "watch/2", "watched/2", "gained/1", "lost/1"
-  };
+  private static final int CONSTANTS = 16;
+  private static final int METHODS = 24;
   private static final Set<Class<?>> TYPES =
       Set.of(
           int.class, long.class, short.class, byte.class, char.class, boolean.class, int[].class, long[].class,
           short[].class, byte[].class, char[].class, boolean[].class);
   private static final Check check = new Check();
 
-  public static void main(String[] args) throws ReflectiveOperationException {
+  public static void main(String[] args) throws IOException, ReflectiveOperationException {
     theClass();
-    constants();
+    theFace();
     methods();
     fields();
     check.end();
@@ -35,60 +33,87 @@ public final class FaceTest {
     Class<?> type = DocumentPaths.class;
     check.isTrue("public and final", Modifier.isPublic(type.getModifiers()) && Modifier.isFinal(type.getModifiers()));
     check.isTrue("extends nothing", type.getSuperclass() == Object.class && type.getInterfaces().length == 0);
+    check.alike("its package", type.getPackageName(), "");
     check.due("nested classes", type.getDeclaredClasses().length, 0);
-    Constructor<?>[] constructors = type.getDeclaredConstructors();
-    check.due("constructors", constructors.length, 1);
-    check.due("the constructor's parameters", constructors[0].getParameterCount(), 0);
-    check.isTrue("a public constructor", Modifier.isPublic(constructors[0].getModifiers()));
+    check.due("constructors", type.getDeclaredConstructors().length, 1);
   }
 
-  private static void constants() throws ReflectiveOperationException {
-    check.about("the constants");
-    for (int value = 0; value < CONSTANTS.length; value++) {
-      Field field = DocumentPaths.class.getField(CONSTANTS[value]);
-      check.due(CONSTANTS[value], field.getInt(null), value);
-      check.isTrue(CONSTANTS[value] + " is a constant", Modifier.isStatic(field.getModifiers())
-          && Modifier.isFinal(field.getModifiers()) && field.getType() == int.class);
+  private static void theFace() throws IOException, ReflectiveOperationException {
+    check.about("the face");
+    Set<String> due = faceOfTheDocument();
+    Set<String> found = faceOfTheClass();
+    check.due("lines in the document", due.size(), CONSTANTS + 1 + METHODS);
+    for (String line : due) {
+      check.isTrue("'" + line + "' is there", found.contains(line));
     }
+    for (String line : found) {
+      check.isTrue("'" + line + "' is in the document", due.contains(line));
+    }
+  }
+
+  /** The lines between the braces of the document's class, without the names of parameters. */
+  private static Set<String> faceOfTheDocument() throws IOException {
+    String document = Files.readString(Path.of("../shared/DOC.md"));
+    int from = document.indexOf("public final class DocumentPaths {\n");
+    String face = document.substring(document.indexOf('\n', from), document.indexOf("\n}\n", from));
+    return Arrays.stream(face.split(";"))
+        .map(line -> line.strip().replaceAll("int \\w+(?=[,)])", "int"))
+        .filter(line -> !line.isEmpty())
+        .collect(Collectors.toCollection(TreeSet::new));
+  }
+
+  private static Set<String> faceOfTheClass() throws ReflectiveOperationException {
+    Set<String> found = new TreeSet<>();
+    for (Field field : DocumentPaths.class.getDeclaredFields()) {
+      if (!Modifier.isPrivate(field.getModifiers())) {
+        found.add(said(field.getModifiers()) + field.getType() + " " + field.getName() + " = " + field.get(null));
+      }
+    }
+    for (Constructor<?> constructor : DocumentPaths.class.getDeclaredConstructors()) {
+      found.add(said(constructor.getModifiers()) + constructor.getName() + listed(constructor.getParameterTypes()));
+    }
+    for (Method method : DocumentPaths.class.getDeclaredMethods()) {
+      if (!Modifier.isPrivate(method.getModifiers())) {
+        String name = method.getReturnType() + " " + method.getName();
+        found.add(said(method.getModifiers()) + name + listed(method.getParameterTypes()));
+      }
+    }
+    return found;
+  }
+
+  private static String said(int modifiers) {
+    String text = Modifier.toString(modifiers);
+    return text.isEmpty() ? "" : text + " ";
+  }
+
+  private static String listed(Class<?>[] types) {
+    return Arrays.stream(types).map(Class::toString).collect(Collectors.joining(", ", "(", ")"));
   }
 
   private static void methods() {
     check.about("the methods");
-    Set<String> found = new TreeSet<>();
     Set<String> publicNames = new TreeSet<>();
     for (Method method : DocumentPaths.class.getDeclaredMethods()) {
       if (Modifier.isPublic(method.getModifiers())) {
-        found.add(method.getName() + "/" + method.getParameterCount());
         publicNames.add(method.getName());
-        check.isTrue(method + " answers an int", method.getReturnType() == int.class);
-        check.isTrue(method + " is not static", !Modifier.isStatic(method.getModifiers()));
-        for (Class<?> type : method.getParameterTypes()) {
-          check.isTrue(method + " takes ints", type == int.class);
-        }
       }
     }
-    check.alike("the public ones", found.toString(), new TreeSet<>(Set.of(METHODS)).toString());
     for (Method method : DocumentPaths.class.getDeclaredMethods()) {
-      if (!Modifier.isPublic(method.getModifiers())) {
-        check.isTrue(method + " is private", Modifier.isPrivate(method.getModifiers()));
-        check.isTrue(method + " has a name of its own", !publicNames.contains(method.getName()));
-        check.isTrue(method + " has at most 7 parameters", method.getParameterCount() <= 7);
-        check.isTrue(method + " answers a number", !method.getReturnType().isArray());
-      }
+      check.isTrue(method + " has at most 7 parameters", method.getParameterCount() <= 7);
+      check.isTrue(method + " answers a number", !method.getReturnType().isArray());
+      boolean isPublic = Modifier.isPublic(method.getModifiers());
+      check.isTrue(method + " has a name of its own", isPublic || !publicNames.contains(method.getName()));
     }
   }
 
   private static void fields() {
     check.about("the fields");
-    Set<String> constants = Set.of(CONSTANTS);
     int held = 0;
     for (Field field : DocumentPaths.class.getDeclaredFields()) {
       boolean isStatic = Modifier.isStatic(field.getModifiers());
-      check.isTrue(field + " is private or of the face",
-          Modifier.isPrivate(field.getModifiers()) || constants.contains(field.getName()));
+      boolean isConstant = Modifier.isFinal(field.getModifiers()) && Set.of(int.class, long.class).contains(field.getType());
       check.isTrue(field + " has a type of the rules", TYPES.contains(field.getType()));
-      check.isTrue(field + " is a constant if it is static",
-          !isStatic || (Modifier.isFinal(field.getModifiers()) && !field.getType().isArray()));
+      check.isTrue(field + " is a constant if it is static", !isStatic || isConstant);
       check.isTrue(field + " names one array for good",
           !field.getType().isArray() || Modifier.isFinal(field.getModifiers()));
       held += isStatic ? 0 : 1;
